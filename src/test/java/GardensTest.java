@@ -137,6 +137,7 @@ public final class GardensTest {
         x.seen(0, true);
         x.path(1);
         x.keep();
+        x.wrong();
         Check.write(x, "n3;");
         CHECK.due("lay() without a gate", x.lay(), NO);
         CHECK.due("nothing changes: persons", x.count(1), 2);
@@ -146,6 +147,7 @@ public final class GardensTest {
         CHECK.due("nothing changes: undone", x.count(6), 2);
         CHECK.due("nothing changes: kept", x.count(7), 1);
         CHECK.due("nothing changes: where", x.where(0), 1);
+        x.wrong();
         Check.write(x, "g0,3,2,9;g3,1,3,7;");
         CHECK.due("lay()", x.lay(), 2);
         int[] counts = {2, 3, 0, 2, 0, 0, 0, 0, 21};
