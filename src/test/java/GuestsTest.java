@@ -39,6 +39,10 @@ public final class GuestsTest {
         CHECK.due("path behind it", x.path(1), 1);
         x.noPath();
         x.path(0);
+        x.path(1);
+        dueGuests(x, 0, 60, 1);
+        x.noPath();
+        x.path(0);
         dueGuests(x, 2, 60, 1);
     }
 
