@@ -179,9 +179,9 @@ public final class GuestsTest {
 
     /** All gates can be passed always, so each draw is seen: by BigInteger, as told. */
     private static void dayDraws() {
-        OddLetsIn x = Check.laid("g2,3,0,0;g0,1,3,0;g1,2,3,0;g0,2,3,0;g0,1,3,0;n3;");
         int[] days = {0, 1, 7, 4242, 5999, 9998, 9999};
         for (int z : days) {
+            OddLetsIn x = Check.laid("g2,3,0,0;g0,1,3,0;g1,2,3,0;g0,2,3,0;g0,1,3,0;n3;");
             int[] court = new int[3];
             int[][] ends = {{2, 3}, {0, 1}, {1, 2}, {0, 2}, {0, 1}};
             boolean shut = false;
