@@ -30,6 +30,7 @@ public final class PassEdgesTest {
         undoNo();
         undoTheLastEight();
         undoTheLatest();
+        undoLeavesTheRest();
         undoOfWhatChangesNoGate();
         refusedIsNoneToUndo();
         CHECK.end();
@@ -289,6 +290,27 @@ public final class PassEdgesTest {
         CHECK.due("gate 2 is open again", x.can(1, 2), 1);
         CHECK.due("undo() the pass of 0", x.undo(), 0);
         CHECK.due("where(0)", x.where(0), 0);
+        CHECK.due("gone", x.gate(1, 3) + x.gate(2, 3), 0);
+    }
+
+    /** UNDONE is one alone: a pass takes no fine back, a lingering moves nobody. */
+    private static void undoLeavesTheRest() {
+        OddLetsIn x = Check.laid(TO_AND_FRO);
+        x.linger(0, 1);
+        x.pass(1, 1);
+        x.pass(0, 2);
+        x.linger(1, 1);
+        x.smallest(4);
+        CHECK.due("undo() the lingering", x.undo(), 3);
+        CHECK.due("fines", x.count(2), 1);
+        CHECK.due("where(1)", x.where(1), 1);
+        CHECK.due("undo() the pass of 0", x.undo(), 2);
+        CHECK.due("fines", x.count(2), 1);
+        CHECK.due("where", x.where(0) + 10 * x.where(1), 10);
+        CHECK.due("undo() the pass of 1", x.undo(), 1);
+        CHECK.due("fines", x.count(2), 1);
+        CHECK.due("undo() the first lingering", x.undo(), 0);
+        CHECK.due("fines", x.count(2), 0);
         CHECK.due("gone", x.gate(1, 3) + x.gate(2, 3), 0);
     }
 

@@ -36,7 +36,9 @@ public final class TextEdgesTest {
         writeTakesTheLowestBytes();
         writeBadOrFull();
         wipeEmptyAndFull();
+        wipeLeavesNoByte();
         faultNone();
+        faultLaysNothing();
         layNoWithFaultOrWithoutGate();
         layNoChangesNothing();
         layForgetsWhatWas();
@@ -348,6 +350,20 @@ public final class TextEdgesTest {
         CHECK.due("write behind it", x.write(8, 0), 8);
     }
 
+    /** Promise 3: "THE TEXT is empty": what stood there ends no item any more. */
+    private static void wipeLeavesNoByte() {
+        String text = "g0,1,0,1;n3;";
+        for (int length = 0; length <= text.length(); length++) {
+            OddLetsIn x = new OddLetsIn();
+            Check.write(x, text);
+            x.wipe();
+            Check.write(x, text.substring(0, length));
+            int want = length == 0 || length == 9 || length == 12 ? NONE : length < 9 ? 0 : 9;
+            CHECK.due("fault() of " + length + " bytes behind wipe()", x.fault(), want);
+            CHECK.due("lay()", x.lay(), want == NONE && length > 0 ? 1 : NO);
+        }
+    }
+
     /** Promise 4: "FAULT. NONE." */
     private static void faultNone() {
         dueFault("", NONE);
@@ -361,6 +377,39 @@ public final class TextEdgesTest {
         CHECK.due("no fault any more", x.fault(), NONE);
         CHECK.due("nothing is laid by it", x.gate(0, 3), 0);
         CHECK.due("nobody is away by it", x.count(1), 2);
+    }
+
+    /** A TEXT that is not LAID, with or without FAULT, is no garden: all is as what is laid. */
+    private static void faultLaysNothing() {
+        String[] texts = {"g0,1,0,1;n1;", "g0,1,0,1;n1;x", "n1;", ""};
+        for (String text : texts) {
+            OddLetsIn x = Check.laid("g1,2,0,0;g0,1,3,0;g0,2,0,0;n3;");
+            x.wipe();
+            Check.write(x, text);
+            x.fault();
+            CHECK.due("can(2, 2)", x.can(2, 2), 1);
+            x.fault();
+            CHECK.due("pass(2, 1)", x.pass(2, 1), 1);
+            x.fault();
+            CHECK.due("linger(2, 0)", x.linger(2, 0), 1);
+            x.fault();
+            CHECK.due("day(0, 1, 2)", x.day(0, 1, 2), 1);
+            x.fault();
+            CHECK.due("wrong()", x.wrong(), 32 + 7);
+            x.fault();
+            CHECK.due("odds of gate 2", x.odds(2, 1, 5, 1), 2);
+            x.fault();
+            CHECK.due("mend(4, 0)", x.mend(4, 0), 0);
+            x.fault();
+            CHECK.due("seen(2, true)", x.seen(2, true), 1);
+            x.fault();
+            CHECK.due("path(2)", x.path(2), 1);
+            x.fault();
+            CHECK.due("guests(0, 0)", x.guests(0, 0), 60);
+            x.fault();
+            CHECK.due("undo()", x.undo(), 1);
+            CHECK.due("where(2)", x.where(2), 1);
+        }
     }
 
     /** Promise 5: "NO"; "LAID is a TEXT without FAULT, of a GATE at least (NO else ..)" */
@@ -389,6 +438,7 @@ public final class TextEdgesTest {
         x.pass(2, 2);
         x.seen(1, true);
         x.path(0);
+        x.wrong();
         return x;
     }
 
